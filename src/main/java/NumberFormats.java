@@ -9,11 +9,9 @@ public final class NumberFormats {
     private static final int TEXT_SIZE = 255;
     private static final int OUTPUT_SIZE = 1024;
     private static final int MOST_SECTIONS = 4;
-    private static final double VALUE_BOUND = 1E300;
-    private static final double GREATEST_DOUBLE = 1.7976931348623157E308;
-    private static final double FRACTION_BOUND = 1E9;
 
-    // What an item of a format is; BAD is a row of characters that is none.
+    // What an item of a format is; BAD is a row of characters that is none. TENTHS (the point),
+    // TENTH (a zero behind it) and MINUTES are what a DATE makes of others.
     private static final int BAD = 0;
     private static final int LITERAL = 1;
     private static final int CONDITION = 2;
@@ -29,6 +27,9 @@ public final class NumberFormats {
     private static final int HALVES = 12;
     private static final int LETTERS = 13;
     private static final int DIVISOR = 14;
+    private static final int TENTHS = 15;
+    private static final int TENTH = 16;
+    private static final int MINUTES = 17;
 
     // The sort of a section; a NUMBER with a right / is a FRACTION.
     private static final int IS_PLAIN = 0;
@@ -88,18 +89,18 @@ public final class NumberFormats {
     }
 
     public boolean set(double v) {
-        if (!(v > -VALUE_BOUND && v < VALUE_BOUND)) {
-            return false;
+        if (v > -1E300 && v < 1E300) {
+            value = v == 0 ? 0.0 : v;
+            return true;
         }
-        value = v == 0 ? 0.0 : v;
-        return true;
+        return false;
     }
 
     public boolean reckon(int what, double v) {
         if (what < 0 || what > 3 || v != v || (what == 3 && v == 0)) {
             return false;
         }
-        boolean endless = v > GREATEST_DOUBLE || v < -GREATEST_DOUBLE;
+        boolean endless = v > 1.7976931348623157E308 || v < -1.7976931348623157E308;
         if (endless && what != 3) {
             // Zero times an endless v would be no number at all; the others are too great.
             return false;
@@ -260,14 +261,11 @@ public final class NumberFormats {
         }
 
         void addCondition(int relation, double limit, int place) {
+            int i = count;
             add(CONDITION, '[', relation, place);
-            if (has(count - 1)) {
-                limits[count - 1] = limit;
+            if (i >= 0 && i < limits.length) {
+                limits[i] = limit;
             }
-        }
-
-        private boolean has(int i) {
-            return i >= 0 && i < count && i < kinds.length;
         }
 
         int sections() {
@@ -284,7 +282,7 @@ public final class NumberFormats {
         }
 
         int to(int s) {
-            return from(s + 1);
+            return s >= -1 && s + 1 < sections && s + 1 < starts.length ? starts[s + 1] : count;
         }
 
         int sort(int s) {
@@ -298,23 +296,29 @@ public final class NumberFormats {
         }
 
         int kind(int i) {
-            return has(i) ? kinds[i] : NONE;
+            return i >= 0 && i < count && i < kinds.length ? kinds[i] : NONE;
+        }
+
+        void setKind(int i, int kind) {
+            if (i >= 0 && i < count && i < kinds.length) {
+                kinds[i] = kind;
+            }
         }
 
         int sign(int i) {
-            return has(i) ? signs[i] : NONE;
+            return i >= 0 && i < count && i < signs.length ? signs[i] : NONE;
         }
 
         int size(int i) {
-            return has(i) ? sizes[i] : 0;
+            return i >= 0 && i < count && i < sizes.length ? sizes[i] : 0;
         }
 
         int place(int i) {
-            return has(i) ? places[i] : NONE;
+            return i >= 0 && i < count && i < places.length ? places[i] : NONE;
         }
 
         double limit(int i) {
-            return has(i) ? limits[i] : 0.0;
+            return i >= 0 && i < count && i < limits.length ? limits[i] : 0.0;
         }
 
         /** The kind of an item, NONE if the section hasn't it. */
@@ -355,10 +359,10 @@ public final class NumberFormats {
         }
 
         boolean hasCondition(int s) {
-            return kindIn(s, from(s)) == CONDITION;
+            return from(s) < to(s) && kind(from(s)) == CONDITION;
         }
 
-        /** How many items of a kind stand from an item on with nothing between, up to a bound. */
+        /** How many items of a kind stand from an item on with nothing between. */
         int rowFrom(int kind, int i, int to) {
             int n = 0;
             while (i + n < to && kind(i + n) == kind) {
@@ -366,41 +370,12 @@ public final class NumberFormats {
             }
             return n;
         }
-
-        private boolean isZero(int s, int i) {
-            return kindIn(s, i) == DIGIT && sign(i) == '0';
-        }
-
-        private boolean isSeconds(int s, int i) {
-            int kind = kindIn(s, i);
-            return (kind == LETTERS || kind == ELAPSED) && sign(i) == 's';
-        }
-
-        /** Is it, in a DATE, the point of tenths? */
-        boolean isTenthsPoint(int s, int i) {
-            return kindIn(s, i) == POINT && isSeconds(s, i - 1) && isZero(s, i + 1);
-        }
-
-        /** Is it, in a DATE, one of the up to three zeros behind the point of tenths? */
-        boolean isTenth(int s, int i) {
-            if (!isZero(s, i)) {
-                return false;
-            }
-            for (int back = 1; back <= 3; back++) {
-                if (isTenthsPoint(s, i - back)) {
-                    return true;
-                }
-                if (!isZero(s, i - back)) {
-                    return false;
-                }
-            }
-            return false;
-        }
     }
 
     /** Cuts a text into the items of a format. */
     private static final class Reader {
         private static final String THEMSELVES = "!$&'()*+-:<=>^{|}~ ";
+        private static final int MOST_DIGITS = 9;
 
         static void read(Text text, Format f) {
             f.clear();
@@ -493,7 +468,7 @@ public final class NumberFormats {
             }
             if (isElapsed(text, at + 1, close)) {
                 f.add(ELAPSED, text.smallAt(at + 1), close - at - 1, at);
-            } else if (!Condition.read(text, f, at, close)) {
+            } else if (!readCondition(text, f, at, close)) {
                 // It has its end, so it is left as a whole: nothing in it tells the sort.
                 return bad(text, f, at, close + 1);
             }
@@ -507,78 +482,8 @@ public final class NumberFormats {
             return known && (to - from == 1 || twice);
         }
 
-        private static int divisor(Text text, Format f, int at) {
-            int last = f.to(f.sections() - 1) - 1;
-            if (f.kindIn(f.sections() - 1, last) != SLASH) {
-                return bad(text, f, at, at + 1);
-            }
-            int digits = text.digitsFrom(at, 3);
-            f.add(DIVISOR, text.at(at), text.numberOf(at, digits), at);
-            return at + digits;
-        }
-
-        private static int word(Text text, Format f, int at) {
-            int letter = text.smallAt(at);
-            switch (letter) {
-                case 'y':
-                case 'm':
-                case 'd':
-                case 'h':
-                case 's':
-                    return letters(text, f, at, letter);
-                default:
-                    break;
-            }
-            if (letter == 'e' && (text.at(at + 1) == '+' || text.at(at + 1) == '-')) {
-                f.add(EXPONENT, text.at(at + 1), 1, at);
-                return at + 2;
-            }
-            if (text.hasWord("general", at)) {
-                f.add(GENERAL, 'G', 1, at);
-                return at + 7;
-            }
-            if (text.hasWord("am/pm", at)) {
-                f.add(HALVES, 'A', 2, at);
-                return at + 5;
-            }
-            if (text.hasWord("a/p", at)) {
-                f.add(HALVES, 'A', 1, at);
-                return at + 3;
-            }
-            return bad(text, f, at, at + 1);
-        }
-
-        private static int letters(Text text, Format f, int at, int letter) {
-            int n = 0;
-            while (n < TEXT_SIZE && text.smallAt(at + n) == letter) {
-                n++;
-            }
-            if (n > mostOf(letter)) {
-                return bad(text, f, at, at + n);
-            }
-            f.add(LETTERS, letter, n, at);
-            return at + n;
-        }
-
-        private static int mostOf(int letter) {
-            switch (letter) {
-                case 'm':
-                    return 5;
-                case 'h':
-                case 's':
-                    return 2;
-                default:
-                    return 4;
-            }
-        }
-    }
-
-    /** Reads conditions and asks whether they hold. */
-    private static final class Condition {
-        private static final int MOST_DIGITS = 9;
-
         /** Adds the condition between two brackets; false if there is none. */
-        static boolean read(Text text, Format f, int open, int close) {
+        private static boolean readCondition(Text text, Format f, int open, int close) {
             int relation = relation(text.at(open + 1), text.at(open + 2));
             if (relation == 0) {
                 return false;
@@ -650,9 +555,69 @@ public final class NumberFormats {
             return (double) bits * (scale * 2);
         }
 
-        static boolean holds(int relation, double v, double limit) {
-            int found = v < limit ? LESS : v > limit ? MORE : EQUAL;
-            return (relation & found) != 0;
+        private static int divisor(Text text, Format f, int at) {
+            int last = f.to(f.sections() - 1) - 1;
+            if (f.kindIn(f.sections() - 1, last) != SLASH) {
+                return bad(text, f, at, at + 1);
+            }
+            int digits = text.digitsFrom(at, 3);
+            f.add(DIVISOR, text.at(at), text.numberOf(at, digits), at);
+            return at + digits;
+        }
+
+        private static int word(Text text, Format f, int at) {
+            int letter = text.smallAt(at);
+            switch (letter) {
+                case 'y':
+                case 'm':
+                case 'd':
+                case 'h':
+                case 's':
+                    return letters(text, f, at, letter);
+                default:
+                    break;
+            }
+            if (letter == 'e' && (text.at(at + 1) == '+' || text.at(at + 1) == '-')) {
+                f.add(EXPONENT, text.at(at + 1), 1, at);
+                return at + 2;
+            }
+            if (text.hasWord("general", at)) {
+                f.add(GENERAL, 'G', 1, at);
+                return at + 7;
+            }
+            if (text.hasWord("am/pm", at)) {
+                f.add(HALVES, 'A', 2, at);
+                return at + 5;
+            }
+            if (text.hasWord("a/p", at)) {
+                f.add(HALVES, 'A', 1, at);
+                return at + 3;
+            }
+            return bad(text, f, at, at + 1);
+        }
+
+        private static int letters(Text text, Format f, int at, int letter) {
+            int n = 0;
+            while (n < TEXT_SIZE && text.smallAt(at + n) == letter) {
+                n++;
+            }
+            if (n > mostOf(letter)) {
+                return bad(text, f, at, at + n);
+            }
+            f.add(LETTERS, letter, n, at);
+            return at + n;
+        }
+
+        private static int mostOf(int letter) {
+            switch (letter) {
+                case 'm':
+                    return 5;
+                case 'h':
+                case 's':
+                    return 2;
+                default:
+                    return 4;
+            }
         }
     }
 
@@ -661,6 +626,10 @@ public final class NumberFormats {
         static int firstIll(Format f) {
             for (int s = 0; s < f.sections(); s++) {
                 f.setSort(s, sortOf(f, s));
+                if (f.sort(s) == IS_DATE) {
+                    markMinutes(f, s);
+                    markTenths(f, s);
+                }
                 int ill = firstIllIn(f, s);
                 if (ill != NONE) {
                     return f.place(ill);
@@ -695,6 +664,45 @@ public final class NumberFormats {
             return behind == DIGIT || behind == DIVISOR;
         }
 
+        /** Tells minutes from months. */
+        private static void markMinutes(Format f, int s) {
+            int before = NONE;
+            int open = NONE;
+            for (int i = f.from(s); i < f.to(s); i++) {
+                boolean letters = f.kind(i) == LETTERS;
+                if (!letters && f.kind(i) != ELAPSED) {
+                    continue;
+                }
+                int letter = f.sign(i);
+                if (letter == 's') {
+                    f.setKind(open, MINUTES);
+                }
+                open = letters && letter == 'm' && f.size(i) <= 2 ? i : NONE;
+                if (before == 'h') {
+                    f.setKind(open, MINUTES);
+                }
+                before = letter;
+            }
+        }
+
+        private static void markTenths(Format f, int s) {
+            for (int i = f.from(s); i < f.to(s); i++) {
+                int before = f.kindIn(s, i - 1);
+                boolean seconds = (before == LETTERS || before == ELAPSED) && f.sign(i - 1) == 's';
+                if (f.kind(i) != POINT || !seconds) {
+                    continue;
+                }
+                for (int k = i + 1; k <= i + 3 && isZero(f, s, k); k++) {
+                    f.setKind(i, TENTHS);
+                    f.setKind(k, TENTH);
+                }
+            }
+        }
+
+        private static boolean isZero(Format f, int s, int i) {
+            return f.kindIn(s, i) == DIGIT && f.sign(i) == '0';
+        }
+
         /** The first item of a section that is ill, or NONE. */
         private static int firstIllIn(Format f, int s) {
             int sort = f.sort(s);
@@ -719,7 +727,7 @@ public final class NumberFormats {
             }
             switch (f.sort(s)) {
                 case IS_DATE:
-                    return isIllInDate(f, s, i);
+                    return isIllInDate(kind);
                 case IS_NUMBER:
                     return isIllInNumber(f, s, i);
                 case IS_FRACTION:
@@ -729,10 +737,9 @@ public final class NumberFormats {
             }
         }
 
-        private static boolean isIllInDate(Format f, int s, int i) {
-            switch (f.kind(i)) {
+        private static boolean isIllInDate(int kind) {
+            switch (kind) {
                 case DIGIT:
-                    return !f.isTenth(s, i);
                 case PERCENT:
                 case EXPONENT:
                 case AT:
@@ -804,7 +811,6 @@ public final class NumberFormats {
     /** A double's exact value, times a whole number, as a row of decimal digits. */
     private static final class Decimal {
         private static final long LIMB = 1000000000L;
-        private static final double WHOLE_BOUND = 9007199254740992.0;
 
         private final long[] limbs = new long[100];
         private final int[] digits = new int[910];
@@ -816,7 +822,7 @@ public final class NumberFormats {
         void load(double v, int factor) {
             double rest = v;
             int twos = 0;
-            for (int k = 0; k < 1100 && rest >= WHOLE_BOUND; k++) {
+            for (int k = 0; k < 1100 && rest >= 9007199254740992.0; k++) {
                 rest *= 0.5;
                 twos++;
             }
@@ -833,6 +839,16 @@ public final class NumberFormats {
             multiplyOften(twos > 0 ? 2 : 5, twos > 0 ? twos : -twos);
             scale = twos > 0 ? 0 : -twos;
             spread();
+        }
+
+        /** Takes a whole number, not below 0. */
+        void loadWhole(long number) {
+            scale = 0;
+            count = 0;
+            for (long left = number; left > 0 && count < digits.length; left /= 10) {
+                digits[count] = (int) (left % 10);
+                count++;
+            }
         }
 
         private void push(long limb) {
@@ -905,7 +921,7 @@ public final class NumberFormats {
 
         /** How many digits there are before the point, none for 0. */
         int wholeDigits() {
-            return isZero() ? 0 : Math.max(0, top() + 1);
+            return count > 0 && count > scale ? count - scale : 0;
         }
 
         /** Rounds to so many decimals, a half up; to tens, hundreds .. if they are below 0. */
@@ -1262,7 +1278,7 @@ public final class NumberFormats {
             } else if (sign == '+') {
                 pen.add('+');
             }
-            pen.decimal().load((double) Math.abs(power), 1);
+            pen.decimal().loadWhole(Math.abs(power));
             pen.startSlots(f, exponent + 1, f.to(s), false);
         }
     }
@@ -1272,7 +1288,6 @@ public final class NumberFormats {
         private static final long LOW = 0xFFFFFFFFL;
         private static final long ALL = 0x7FFFFFFFFFFFFFFFL;
         private static final long HALF = 1L << 62;
-        private static final double UNIT = 9223372036854775808.0;
 
         private int slash;
         private int upperStart;
@@ -1291,7 +1306,7 @@ public final class NumberFormats {
                 pen.add('-');
             }
             blank = mixed && upper == 0;
-            pen.decimal().load((double) whole, 1);
+            pen.decimal().loadWhole(whole);
             pen.startSlots(f, f.from(s), upperStart, false);
             for (int i = f.from(s); i < f.to(s); i++) {
                 putItem(pen, f, i);
@@ -1335,7 +1350,7 @@ public final class NumberFormats {
                 // Nearer to 0 than half of 1 / 999; all other parts are whole 1 / 2^63s.
                 return;
             }
-            long units = (long) (part * UNIT);
+            long units = (long) (part * 9223372036854775808.0);
             long bestGap = HALF;
             for (int below = least; below <= most; below++) {
                 long above = ((units >>> 32) * below + (((units & LOW) * below) >>> 32)) >>> 31;
@@ -1364,7 +1379,7 @@ public final class NumberFormats {
         private void putItem(Pen pen, Format f, int i) {
             int kind = f.kind(i);
             if (i == upperStart) {
-                pen.decimal().load((double) upper, 1);
+                pen.decimal().loadWhole(upper);
                 pen.startSlots(f, upperStart, slash, false);
             }
             if (kind == LITERAL) {
@@ -1422,18 +1437,18 @@ public final class NumberFormats {
             halves = f.findIn(s, HALVES) != NONE;
             tenthsPut = 0;
             for (int i = f.from(s); i < f.to(s); i++) {
-                putItem(pen, f, s, i);
+                putItem(pen, f, i);
             }
         }
 
         private static int mostTenths(Format f, int s) {
             int most = 0;
             for (int i = f.from(s); i < f.to(s); i++) {
-                if (f.isTenthsPoint(s, i)) {
-                    most = Math.max(most, f.rowFrom(DIGIT, i + 1, f.to(s)));
+                if (f.kind(i) == TENTHS) {
+                    most = Math.max(most, f.rowFrom(TENTH, i + 1, f.to(s)));
                 }
             }
-            return Math.min(most, 3);
+            return most;
         }
 
         /** Finds day and time, rounded; false if there are none. */
@@ -1471,10 +1486,13 @@ public final class NumberFormats {
             weekday = (days + 6) % 7;
         }
 
-        private void putItem(Pen pen, Format f, int s, int i) {
+        private void putItem(Pen pen, Format f, int i) {
             switch (f.kind(i)) {
                 case LETTERS:
-                    putLetters(pen, f, s, i);
+                    putLetters(pen, f.sign(i), f.size(i));
+                    break;
+                case MINUTES:
+                    pen.addNumber(seconds / 60 % 60, f.size(i));
                     break;
                 case ELAPSED:
                     putElapsed(pen, f.sign(i), f.size(i));
@@ -1485,15 +1503,16 @@ public final class NumberFormats {
                         pen.add('M');
                     }
                     break;
-                case DIGIT:
+                case TENTHS:
+                    tenthsPut = 0;
+                    pen.add('.');
+                    break;
+                case TENTH:
                     putTenth(pen);
                     break;
                 case CONDITION:
                     break;
                 default:
-                    if (f.isTenthsPoint(s, i)) {
-                        tenthsPut = 0;
-                    }
                     pen.add(f.sign(i));
                     break;
             }
@@ -1515,18 +1534,13 @@ public final class NumberFormats {
                     : letter == 'm' ? seconds / 60 : seconds, least);
         }
 
-        private void putLetters(Pen pen, Format f, int s, int i) {
-            int n = f.size(i);
-            switch (f.sign(i)) {
+        private void putLetters(Pen pen, int letter, int n) {
+            switch (letter) {
                 case 'y':
                     pen.addNumber(n > 2 ? year : year % 100, n > 2 ? 4 : 2);
                     break;
                 case 'm':
-                    if (n <= 2 && isMinutes(f, s, i)) {
-                        pen.addNumber(seconds / 60 % 60, n);
-                    } else {
-                        putMonth(pen, n);
-                    }
+                    putMonth(pen, n);
                     break;
                 case 'd':
                     putDay(pen, n);
@@ -1538,20 +1552,6 @@ public final class NumberFormats {
                     pen.addNumber(seconds % 60, n);
                     break;
             }
-        }
-
-        private static boolean isMinutes(Format f, int s, int i) {
-            return letterFrom(f, s, i, -1) == 'h' || letterFrom(f, s, i, 1) == 's';
-        }
-
-        /** The letter of the next item before or behind one that is of letters or elapsed. */
-        private static int letterFrom(Format f, int s, int i, int step) {
-            for (int k = i + step; k >= f.from(s) && k < f.to(s); k += step) {
-                if (f.kind(k) == LETTERS || f.kind(k) == ELAPSED) {
-                    return f.sign(k);
-                }
-            }
-            return NONE;
         }
 
         private void putMonth(Pen pen, int n) {
@@ -1601,7 +1601,7 @@ public final class NumberFormats {
             pen.clear();
             double shown = v < 0 ? -v : v;
             int s = sectionFor(f, v);
-            boolean tooGreat = f.sort(s) == IS_FRACTION && shown >= FRACTION_BOUND;
+            boolean tooGreat = f.sort(s) == IS_FRACTION && shown >= 1E9;
             if (s == NONE || tooGreat) {
                 putMinus(v < 0);
                 GeneralView.put(pen, shown);
@@ -1679,10 +1679,9 @@ public final class NumberFormats {
 
         private static boolean holds(Format f, int s, double v, int withoutCondition) {
             int first = f.from(s);
-            if (f.hasCondition(s)) {
-                return Condition.holds(f.size(first), v, f.limit(first));
-            }
-            return Condition.holds(withoutCondition, v, 0.0);
+            int relation = f.hasCondition(s) ? f.size(first) : withoutCondition;
+            double limit = f.hasCondition(s) ? f.limit(first) : 0.0;
+            return (relation & (v < limit ? LESS : v > limit ? MORE : EQUAL)) != 0;
         }
     }
 }
