@@ -528,7 +528,8 @@ public final class NumberFormats {
 
         /**
          * The double nearest to whole + part / 10^decimals. Its first 54 bits are made by long
-         * division, the last of them says how to round: dividing doubles would round twice.
+         * division, the last of them says how to round: dividing doubles would round twice. None
+         * lies halfway, for with nine decimals at most it would have some 40 bits at most.
          */
         private static double nearest(int whole, int part, int decimals) {
             if (whole == 0 && part == 0) {
@@ -547,12 +548,7 @@ public final class NumberFormats {
                 rest -= rest >= unit ? unit : 0;
                 scale *= 0.5;
             }
-            boolean half = (bits & 1) == 1;
-            bits >>= 1;
-            if (half && (rest > 0 || (bits & 1) == 1)) {
-                bits++;
-            }
-            return (double) bits * (scale * 2);
+            return (double) ((bits + 1) >> 1) * (scale * 2);
         }
 
         private static int divisor(Text text, Format f, int at) {

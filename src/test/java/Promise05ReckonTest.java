@@ -18,6 +18,8 @@ public final class Promise05ReckonTest {
         Probe.due("-1 third * 3 as doubles", Probe.show(x), "-1.");
         reckons(1, -5.5, 4.5);
         reckons(3, -2, -2.25);
+        reckons(3, 1, -2.25);
+        reckons(2, 1, -2.25);
         refused();
         edges();
         Probe.finish();

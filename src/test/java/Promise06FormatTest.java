@@ -54,10 +54,16 @@ public final class Promise06FormatTest {
         Probe.formats("[H][Mm][sS]", "1");
         Probe.formats("x", "ill 0");
         Probe.formats("0E0", "ill 1");
+        Probe.formats("0Ed", "ill 0");
+        Probe.formats("0x+0", "ill 1");
         Probe.formats("Genera", "ill 0");
         Probe.formats("GENERALgeneral", "ill 7");
         Probe.formats("gEnErAl", "1");
         Probe.formats("A", "ill 0");
+        Probe.formats("xeneral", "ill 0");
+        Probe.formats("Generax", "ill 0");
+        Probe.formats("BM/PM", "ill 0");
+        Probe.formats("P/P", "ill 0");
         Probe.formats("am/p", "ill 0");
         Probe.formats("h am/PM", "1");
         Probe.formats("h a/P", "1");

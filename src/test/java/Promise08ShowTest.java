@@ -224,6 +224,8 @@ public final class Promise08ShowTest {
         Probe.shows("#,##0E+0", 12345678, "1,235E+4");
         Probe.shows("0.##E+0", 5, "5.E+0");
         Probe.shows("0.0E+0", -12345, "-1.2E+4");
+        Probe.shows("0" + ",".repeat(240) + ".0E+000", 1E-300, "1.0E-1020");
+        Probe.shows("0" + "%".repeat(240) + ".0E+0", 1E299, "1" + "%".repeat(240) + ".0E+779");
     }
 
     private static void fractions() {
