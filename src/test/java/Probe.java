@@ -2,22 +2,34 @@ import java.util.Objects;
 
 /** What all tests use: objects to ask by texts, and answers compared. */
 final class Probe {
+    /** Asked whatever a new object is asked, so that nothing of earlier calls may show. */
+    private static final NumberFormats USED = new NumberFormats();
+
     private static int asked = 0;
     private static int wrong = 0;
+    private static int sentences = 0;
+    private static String sentence = "";
 
     private Probe() {
+    }
+
+    /** What the document says, to be told with the wrong answers that follow. */
+    static void says(String words) {
+        sentences++;
+        sentence = words;
     }
 
     static void due(String what, Object got, Object want) {
         asked++;
         if (!Objects.equals(got, want)) {
             wrong++;
-            System.out.println(what + ": answered <" + got + ">, due is <" + want + ">");
+            System.out.println(what + ": answered <" + got + ">, due is <" + want + ">"
+                    + (sentence.isEmpty() ? "" : ", for the document says: " + sentence));
         }
     }
 
     static void finish() {
-        System.out.println(asked + " answers, " + wrong + " wrong");
+        System.out.println((sentences > 0 ? sentences + " sentences, " : "") + asked + " answers, " + wrong + " wrong");
         if (wrong != 0 || asked == 0) {
             System.exit(1);
         }
@@ -77,8 +89,7 @@ final class Probe {
         }
     }
 
-    static String show(String format, double v) {
-        NumberFormats x = new NumberFormats();
+    private static String show(NumberFormats x, String format, double v) {
         String ill = format(x, format);
         if (ill.startsWith("ill")) {
             return ill;
@@ -86,8 +97,11 @@ final class Probe {
         return x.set(v) ? show(x) : "not set";
     }
 
-    static String showText(String format, String text) {
-        NumberFormats x = new NumberFormats();
+    static String show(String format, double v) {
+        return show(new NumberFormats(), format, v);
+    }
+
+    private static String showText(NumberFormats x, String format, String text) {
         String ill = format(x, format);
         if (ill.startsWith("ill")) {
             return ill;
@@ -98,13 +112,16 @@ final class Probe {
 
     static void shows(String format, double v, String want) {
         due("<" + format + "> shows " + v, show(format, v), want);
+        due("a used object by <" + format + "> shows " + v, show(USED, format, v), want);
     }
 
     static void showsText(String format, String text, String want) {
-        due("<" + format + "> shows text <" + text + ">", showText(format, text), want);
+        due("<" + format + "> shows text <" + text + ">", showText(new NumberFormats(), format, text), want);
+        due("a used object by <" + format + "> shows text <" + text + ">", showText(USED, format, text), want);
     }
 
     static void formats(String format, String want) {
         due("<" + format + ">", format(format), want);
+        due("a used object, <" + format + ">", format(USED, format), want);
     }
 }
