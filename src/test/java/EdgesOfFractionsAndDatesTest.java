@@ -89,6 +89,12 @@ public final class EdgesOfFractionsAndDatesTest {
         Probe.shows("0/000", 1 - 1.0 / 1900, "998/999");
         Probe.shows("0/0", LEAST, "0/1");
         Probe.shows("0/0", Math.nextDown(1.0), "1/1");
+        // Of all doubles these are the closest to the middle between two neighbours.
+        Probe.shows("0/000", 0x1.fef800021fef8p-7, "15/962");
+        Probe.shows("0/000", 0x1.dce70001ddce7p-6, "14/481");
+        Probe.shows("0/000", 0x1.76b10000576b1p-4, "44/481");
+        Probe.shows("0/000", 0x1.e4b432aaa57d1p-9, "3/811");
+        Probe.shows("0/000", 0x1.1250ffffd1251p-3, "73/545");
         for (int[] row : new int[][] {{9, 1}, {99, 1}, {999, 97}}) {
             midpoints(row[0], row[1]);
         }

@@ -207,6 +207,14 @@ public final class EdgesOfNumbersTest {
         // Nothing of a longer number is left ahead of a digit that is carried.
         Probe.shows("0", 7777777777777777.0, "7777777777777777");
         Probe.shows("0", 99999999.5, "100000000");
+        NumberFormats x = new NumberFormats();
+        Probe.format(x, "0.0");
+        for (int power = 1; power <= 300; power++) {
+            x.set(Math.scalb(1.0, -1020) * 1.7);
+            x.show();
+            x.set(Double.parseDouble("4E-" + (power + 1)));
+            Probe.due("4E-" + (power + 1) + " after a longer one", Probe.show(x), "0.0");
+        }
     }
 
     private static void exactValue() {
@@ -369,6 +377,9 @@ public final class EdgesOfNumbersTest {
         Probe.shows("?,##0", 5, " 5");
         Probe.shows("?,???,##0", 5, "     5");
         Probe.shows("?,??\"x\"#,#00", 5, "    x05");
+        Probe.shows("??,#00", 5, "   05");
+        Probe.shows("?,#00,000", 5, " 00,005");
+        Probe.shows("0#,###", 5, "00,005");
     }
 
     private static void groupsRightBehind() {
